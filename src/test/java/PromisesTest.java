@@ -207,6 +207,13 @@ public final class PromisesTest {
         due("sow(-1, 1)", x.sow(-1, 1), -1);
         due("sow(5, 10)", x.sow(5, 10), -1);
         due("table kept", x.enter(4, 6, 1, 9), 9);
+        BayesFactors y = new BayesFactors(7);
+        y.parents(5, 7);
+        due("three parents, not the last variable", y.sow(5, 2), 16);
+        due("next table untouched, own 0", y.enter(6, 0, 0, 1), 1);
+        due("next table untouched, own 1", y.enter(6, 0, 1, 1), 1);
+        y.parents(6, 56);
+        due("three parents, the last variable", y.sow(6, 2), 16);
     }
 
     private static void promise6Observe() {
@@ -580,6 +587,8 @@ public final class PromisesTest {
         due("blanket(0) with a second child", x.blanket(0), 2 + 4 + 8 + 32 + 64);
         x.parents(2, 0);
         due("blanket(0) without the first child", x.blanket(0), 8 + 32 + 64);
+        x.parents(5, 12);
+        due("blanket(2): 3 is a parent of both children", x.blanket(2), 8 + 16 + 32);
         due("blanket(7)", x.blanket(7), -1);
         due("blanket(-1)", x.blanket(-1), -1);
         due("blanket(lowest)", x.blanket(LOWEST), -1);
