@@ -666,7 +666,7 @@ public final class RefusedCallsTest {
         for (int u = 0; u < n; u++) {
             answers.add(x.totalWith(u, 0));
             answers.add(x.totalWith(u, 1));
-            for (int v = u; v < n; v++) {
+            for (int v = 0; v < n; v++) {
                 answers.add(x.totalPair(u, 0, v, 0));
                 answers.add(x.totalPair(u, 0, v, 1));
                 answers.add(x.totalPair(u, 1, v, 0));
@@ -687,7 +687,7 @@ public final class RefusedCallsTest {
             answers.add((long) x.blanket(u));
             answers.add((long) x.bestWith(u, 0));
             answers.add((long) x.bestWith(u, 1));
-            for (int v = u; v < n; v++) {
+            for (int v = 0; v < n; v++) {
                 answers.add((long) x.separated(u, v));
                 answers.add((long) x.independent(u, v));
             }
